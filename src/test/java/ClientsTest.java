@@ -3,6 +3,7 @@ final class ClientsTest {
     public static void main(String[] args) {
         connect();
         connectBeginsAnew();
+        connectEndsWhatIsOnItsWay();
         connectRefuses();
         look();
         lookRefuses();
@@ -33,12 +34,15 @@ final class ClientsTest {
 
     private static void connectBeginsAnew() {
         WorldDeltas w = oneEntity();
+        w.tick(6);
+        w.setHealth(0, 77);
         w.lose(0, 0, 1);
-        w.tick(7);
+        w.tick(3);
         w.lose(0, 7, 9);
         Check.due("a copy", w.copy(0, 0, 0), 1);
         Check.due("packets sent", w.count(0, 0), 3);
-        Check.due("acks lost", w.count(0, 3), 1);
+        Check.due("baseline", w.kept(0, 0, 1), 2);
+        Check.due("priority", w.kept(0, 0, 0), 32);
         Check.due("connect again", w.connect(0, 10, 10, 5, 12), true);
         for (int what = 0; what < 9; what++) {
             Check.due("count " + what, w.count(0, what), 0);
@@ -53,8 +57,22 @@ final class ClientsTest {
         Check.due("acknowledgements on their way are gone", w.count(0, 4), 0);
         Check.due("numbers begin anew", w.packet(0, 0, 0), 1);
         Check.due("and times", w.packet(0, 0, 3), 0);
-        Check.due("nothing is lost any more", w.count(0, 2), 0);
+        Check.due("a creation again", w.entry(0, 0, 0, 0), WorldDeltas.CREATION);
+        w.tick(4);
+        Check.due("no packet is lost any more", w.count(0, 2), 0);
+        Check.due("no acknowledgement either", w.count(0, 3), 0);
+        Check.due("one is received", w.count(0, 4), 1);
         Check.due("lose", w.lose(0, 0, 0), 0);
+    }
+
+    private static void connectEndsWhatIsOnItsWay() {
+        WorldDeltas w = oneEntity();
+        w.tick(5);
+        Check.due("one packet and one acknowledgement are on their way", w.copy(0, 0, 6) * 10 + w.count(0, 6), 12);
+        w.connect(0, 10, 10, 5, 12);
+        w.tick(1);
+        Check.due("no packet arrives", w.copy(0, 0, 6), 0);
+        Check.due("no acknowledgement arrives", w.count(0, 4), 0);
     }
 
     private static void connectRefuses() {

@@ -19,6 +19,9 @@ final class TicksTest {
         overtakenPacketIsIgnored();
         acknowledgementClearsEarlierPackets();
         differencesBreak();
+        lowestPriorityIsSent();
+        lastPacketIsGivenUp();
+        differencesToRecordsThatMovedUp();
         clientsDoNotShare();
         Check.end();
     }
@@ -359,6 +362,53 @@ final class TicksTest {
         Check.due("the server builds on it", w.kept(0, 0, 1), 15);
         Check.due("and the client is broken on", w.copy(0, 0, 5), 13);
         Check.due("broken", w.count(0, 5), 3);
+    }
+
+    private static void lowestPriorityIsSent() {
+        WorldDeltas w = new WorldDeltas();
+        w.place(6, 31, 31, 0, 5);
+        w.connect(0, 0, 0, 31, 12);
+        w.setTimes(2, 1);
+        w.tick(1);
+        Check.due("sent with a priority of 1", w.count(0, 0), 1);
+        w.tick(1);
+        w.look(0, 0, 0, 30);
+        w.tick(1);
+        Check.due("not sent without a priority", w.count(0, 0), 2);
+    }
+
+    private static void lastPacketIsGivenUp() {
+        WorldDeltas w = seen(1, 64);
+        w.setTimes(1, 2);
+        w.lose(0, 1, 0);
+        w.tick(2);
+        w.destroy(0);
+        w.tick(5);
+        Check.due("in flight", w.count(0, 6), 1);
+        w.tick(1);
+        Check.due("given up", w.count(0, 7), 1);
+        Check.due("none in flight", w.count(0, 6), 0);
+        Check.due("and none was sent", w.count(0, 0), 1);
+    }
+
+    private static void differencesToRecordsThatMovedUp() {
+        WorldDeltas w = new WorldDeltas();
+        w.setTimes(1, 1);
+        w.place(0, 1, 10, 0, 1);
+        w.setVelocity(0, 1, 0);
+        w.connect(0, 10, 10, 31, 12);
+        for (int i = 2; i < 20; i++) {
+            w.tick(1);
+            w.setHealth(0, i);
+        }
+        w.tick(3);
+        int last = w.count(0, 6) - 1;
+        Check.due("the health is as in the baseline", w.entry(0, last, 0, 4), 1);
+        w.tick(1);
+        Check.due("records", w.copy(0, 0, 6), 12);
+        Check.due("x", w.copy(0, 0, 1), 22);
+        Check.due("health", w.copy(0, 0, 4), 19);
+        Check.due("broken", w.count(0, 5), 0);
     }
 
     private static void clientsDoNotShare() {

@@ -46,9 +46,15 @@ final class UndoTest {
         w.tick(17);
         w.lose(2, 3, 2);
         w.tick(2);
+        // The stack is emptied by taking back three calls that do not matter.
+        w.tick(9);
+        w.disconnect(2);
+        w.connect(0, 1, 1, 1, 12);
         w.undo();
         w.undo();
         w.undo();
+        Check.due("busy time", w.time(), 19);
+        Check.due("busy packets", w.count(0, 6) > 3 && w.count(2, 6) > 3, true);
         return w;
     }
 
