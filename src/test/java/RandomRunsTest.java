@@ -9,6 +9,7 @@ final class RandomRunsTest {
     private final String run;
     private final WorldDeltas world = new WorldDeltas();
     private final Model model = new Model();
+    private int used = 0;
 
     private RandomRunsTest(int seed) {
         random = new Random(seed);
@@ -30,10 +31,12 @@ final class RandomRunsTest {
 
     private void go(long[] seen) {
         int style = random.nextInt(4);
-        for (int i = 0; i < CALLS; i += 2) {
-            String call = run + " call " + i;
+        // A step makes four calls at most: itself, and the digest once or, where it is refused, three times.
+        while (used + 4 <= CALLS) {
+            String call = run + " call " + used;
             step(call, style);
             Check.due(call + " digest", world.digest(), model.digest());
+            used += 2;
             for (int c = 0; c < 3; c++) {
                 for (int what = 0; what < 9; what++) {
                     seen[what] += model.count(c, what);
@@ -82,6 +85,7 @@ final class RandomRunsTest {
     }
 
     private void expect(String call, String exception, Check.Call wrong) {
+        used += 2;
         Check.dueThrow(call, world, exception, wrong);
     }
 
